@@ -517,7 +517,6 @@ public final class LampLine {
             from = sender;
             count = asked.count;
             kind = DONE;
-            messages = 0;
             part = asked.part;
             group = asked.group + 1;
             matter = asked.matter;
@@ -526,7 +525,6 @@ public final class LampLine {
 
         void refuse(int reason) {
             kind = REFUSED;
-            data.cut(0);
             data.putNumber(reason, 2);
         }
     }
@@ -629,11 +627,10 @@ public final class LampLine {
 
         void begin() {
             begun = true;
-            lows[0] = 0;
-            highs[0] = LAST_ID;
-            depth = 1;
+            depth = 0;
             foundCount = 0;
             steps = 0;
+            pile(0, LAST_ID);
         }
 
         long latestLow() {

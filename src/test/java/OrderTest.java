@@ -92,7 +92,7 @@ public final class OrderTest {
         C.argument("matter 65536", () -> x.ask(MAKER, REST, 0, 32, 65536));
         C.due("frames()", x.frames(), 0);
         x.end(3);
-        C.due("the edges", x.ask(0, 0, 65535, 255, 65535), LampLine.NONE);
+        C.due("the edges", x.ask(0, 0, 0, 0, 0), LampLine.NONE);
         C.argument("the tape is empty", () -> x.end(1));
         C.due("the edges", x.ask(65535, 4294967295L, 65535, 255, 65535), LampLine.NONE);
         C.due("frames()", x.frames(), 2);
@@ -248,6 +248,8 @@ public final class OrderTest {
         LampLine x = line();
         x.lamp(MAKER, 5, 1, 2, 1);
         x.lamp(MAKER + 1, 5, 1, 2, 1);
+        // What a lamp said before must not come again.
+        Kit.ask(x, MAKER, REST, Kit.SEARCH, 3);
         C.due("SET by a CALL of a maker", Kit.ask(x, MAKER, Kit.ALL_RESTS, Kit.SET, 224, 2), LampLine.NONE);
         C.due("mode", x.about(0, 2), 2);
         C.due("mode", x.about(1, 2), 2);

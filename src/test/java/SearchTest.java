@@ -22,6 +22,9 @@ public final class SearchTest {
         noneIds();
         tapeIsLeftAlone();
         replyThatIsNotRight();
+        echoAtTheEdge();
+        searchAnew();
+        partOfTheSearch();
         C.finish();
     }
 
@@ -347,6 +350,53 @@ public final class SearchTest {
         C.due("is done", x.step(1), branches - 1);
         C.due("without a frame", x.frames(), frames);
         C.due("by a STEP", x.branch(2), steps + 1);
+    }
+
+    private static void echoAtTheEdge() {
+        long[] ids = {Kit.id(5, 6), Kit.id(5, 7)};
+        for (int k = 0; k < 2; k++) {
+            LampLine x = new LampLine();
+            x.lamp(5, 6 + k, 1, 1, 1);
+            x.search();
+            for (int n = 0; n < 200 && (x.branch(0) != ids[0] || x.branch(1) != ids[1]); n++) {
+                if (x.branch(0) <= ids[k] && ids[k] <= x.branch(1)) {
+                    x.spoil(0, 255);
+                }
+                x.step(1);
+            }
+            C.due("a branch of two", x.branch(0), ids[0]);
+            C.due("a branch of two", x.branch(1), ids[1]);
+            x.step(1);
+            C.due("the one at its edge is found", x.found(), 1);
+            C.due("the branch as it was", x.branch(0), ids[0]);
+            C.due("the branch as it was", x.branch(1), ids[1]);
+        }
+    }
+
+    private static void searchAnew() {
+        LampLine x = new LampLine();
+        x.lamp(1, 0, 1, 1, 1);
+        x.lamp(32767, 5, 1, 1, 1);
+        x.search();
+        x.step(6);
+        C.due("both are found", x.found(), 2);
+        C.due("the upper half is left", x.branch(0), 140737488355328L);
+        C.due("search() again", x.search(), 1);
+        C.due("branch(0)", x.branch(0), 0);
+        C.due("branch(1)", x.branch(1), LAST);
+        C.due("branch(2)", x.branch(2), 0);
+        C.due("found()", x.found(), 0);
+        C.due("a found one is not SILENT", x.about(0, 5), 0);
+    }
+
+    private static void partOfTheSearch() {
+        LampLine x = new LampLine();
+        x.lamp(5, 6, 1, 1, 1);
+        Kit.askPart(x, 5, 6, 513, Kit.GET, 80, 1, 2, 3);
+        x.search();
+        x.step(1);
+        C.due("the reply to a SEARCH 2", Kit.answer(x),
+                Kit.packet(Kit.SEARCHER, Kit.id(5, 6), Kit.head(4, 0, 0, 0, 17, 2), 0, 0));
     }
 
     private static void tapeIsLeftAlone() {
