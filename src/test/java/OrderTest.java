@@ -357,6 +357,12 @@ public final class OrderTest {
         C.due("GET 32 of nothing", get(x, 32, 0), 0);
         C.due("its reply", Kit.answer(x),
                 Kit.packet(Kit.SEARCHER, Kit.id(MAKER, REST), Kit.head(7, 0, 0, 0, 33, 32)));
+        LampLine z = line();
+        set(z, 130, 'a');
+        Kit.send(z);
+        Kit.send(z);
+        Kit.ask(z, MAKER, REST, Kit.SEARCH, 2);
+        C.due("MESSAGES of a SEARCH, the first reply since one waits", z.answer(17), 1);
         LampLine y = line();
         Kit.askPart(y, MAKER, REST, 65535, Kit.SET, 130, 'a');
         C.due("LATER for all parts", Kit.data(y), 0, 3);
@@ -379,7 +385,7 @@ public final class OrderTest {
         C.due("is done though four are on their way", x.about(0, 9), 3);
         Kit.send(x);
         C.due("the later one comes over it", x.about(0, 9), 1);
-        C.due("four wait", x.about(0, 8), 3);
+        C.due("three wait", x.about(0, 8), 3);
         Kit.ask(x, 65535, Kit.ALL_RESTS, Kit.SET, 130, Kit.same(65, 33));
         C.due("a size that may not be", x.about(0, 9), 1);
         Kit.ask(x, 65535, Kit.ALL_RESTS, Kit.SET, 130, 65, 127);
