@@ -7,11 +7,24 @@ final class Check {
     }
 
     private final String test;
+    private String sentence = "";
     private int checks;
     private int wrong;
 
     Check(String test) {
         this.test = test;
+    }
+
+    /** A test of one sentence of the document, whose words are told with all that is not as due. */
+    void sentence(String words, Call it) {
+        sentence = "'" + words + "': ";
+        checks++;
+        try {
+            it.run();
+        } catch (RuntimeException e) {
+            tell("threw " + e);
+        }
+        sentence = "";
     }
 
     void due(String call, long got, long want) {
@@ -55,7 +68,7 @@ final class Check {
 
     private void tell(String what) {
         wrong++;
-        System.out.println(test + ": " + what);
+        System.out.println(test + ": " + sentence + what);
     }
 
     void finish() {

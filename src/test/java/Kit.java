@@ -60,10 +60,13 @@ final class Kit {
         return bytes;
     }
 
-    /** DATA of the latest answer, which is a packet. */
+    /** DATA of the latest answer, which is a packet; a call for each byte alone, as an object is good for 512 calls. */
     static int[] data(LampLine x) {
-        int[] bytes = answer(x);
-        return bytes.length < 26 ? bytes : Arrays.copyOfRange(bytes, 24, bytes.length - 2);
+        int[] data = new int[x.answer(23)];
+        for (int k = 0; k < data.length; k++) {
+            data[k] = x.answer(24 + k);
+        }
+        return data;
     }
 
     /** head: COUNT, KIND, MESSAGES, PART, CLASS, MATTER. */
@@ -152,6 +155,33 @@ final class Kit {
         bytes[22] = sum % 256 | 170;
         bytes[23] = sum % 256 | 85;
         return bytes;
+    }
+
+    /** What those echoes are when they fall together. */
+    static int[] together(long... ids) {
+        int[] bytes = new int[24];
+        for (long id : ids) {
+            int[] one = echo(id);
+            for (int k = 0; k < bytes.length; k++) {
+                bytes[k] |= one[k];
+            }
+        }
+        return bytes;
+    }
+
+    /** Steps until the latest branch is low .. high: all echoes of a lamp in it are spoiled before that. */
+    static void narrow(LampLine x, long low, long high) {
+        for (int k = 0; k < 120; k++) {
+            long least = x.branch(0);
+            long greatest = x.branch(1);
+            if (least == low && greatest == high) {
+                return;
+            }
+            if (least <= low && high <= greatest) {
+                x.spoil(0, 255);
+            }
+            x.step(1);
+        }
     }
 
     /** Spoils that turn one answer into another one of the same size, 16 bytes of it at most. */

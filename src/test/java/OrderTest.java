@@ -111,8 +111,10 @@ public final class OrderTest {
     private static void counts() {
         LampLine x = line();
         for (int k = 1; k <= 258; k++) {
-            get(x, 4096);
-            C.due("COUNT of ask " + k, x.answer(15), k % 256);
+            x.ask(MAKER, REST, 0, Kit.GET, 4096);
+            if (k < 3 || k > 253) {
+                C.due("COUNT of ask " + k, x.answer(15), k % 256);
+            }
         }
         x.search();
         get(x, 4096);

@@ -1,3 +1,6 @@
+import java.util.Set;
+import java.util.TreeSet;
+
 /** Promises 15 to 19, and what lamps do with SEARCH. */
 public final class SearchTest {
     private static final Check C = new Check("SearchTest");
@@ -202,12 +205,12 @@ public final class SearchTest {
             C.due("the pile is low", x.step(1) < 50 ? 1 : 0, 1);
         }
         C.due("found()", x.found(), 24);
+        Set<Long> ids = new TreeSet<>();
+        for (int i = 0; i < 24; i++) {
+            ids.add(x.id(i));
+        }
         for (int k = 0; k < 24; k++) {
-            int times = 0;
-            for (int i = 0; i < 24; i++) {
-                times += x.id(i) == Kit.id(x.about(k, 0), x.rest(k)) ? 1 : 0;
-            }
-            C.due("lamp " + k + " is found", times, 1);
+            C.due("lamp " + k + " is found", ids.contains(Kit.id(x.about(k, 0), x.rest(k))) ? 1 : 0, 1);
             C.due("lamp " + k + " is SILENT", x.about(k, 5), 1);
         }
     }
@@ -217,7 +220,7 @@ public final class SearchTest {
         LampLine x = new LampLine();
         x.lamp(5, 6, 1, 1, 1);
         x.search();
-        narrow(x, id);
+        Kit.narrow(x, id, id);
         C.due("nothing found", x.found(), 0);
         int frames = x.frames();
         x.spoil(25, 1);
@@ -254,7 +257,7 @@ public final class SearchTest {
         x.step(1);
         C.due("found", x.found(), 1);
         x.silence(0, false);
-        narrow(x, id);
+        Kit.narrow(x, id, id);
         int frames = x.frames();
         x.step(1);
         C.due("an ID alone that is FOUND is tried", x.frames(), frames + 1);
@@ -339,7 +342,7 @@ public final class SearchTest {
         C.due("an ANSWER with an ID that is none", x.step(1), 2);
         C.due("its bytes", Kit.answer(x), none);
         C.due("is not tried", x.frames(), frames + 1);
-        narrow(x, Kit.id(5, 4294967294L));
+        Kit.narrow(x, Kit.id(5, 4294967294L), Kit.id(5, 4294967294L));
         C.due("its ID alone", x.branch(0), Kit.id(5, 4294967294L));
         int branches = x.step(1);
         C.due("found", x.found(), 1);
@@ -358,12 +361,7 @@ public final class SearchTest {
             LampLine x = new LampLine();
             x.lamp(5, 6 + k, 1, 1, 1);
             x.search();
-            for (int n = 0; n < 200 && (x.branch(0) != ids[0] || x.branch(1) != ids[1]); n++) {
-                if (x.branch(0) <= ids[k] && ids[k] <= x.branch(1)) {
-                    x.spoil(0, 255);
-                }
-                x.step(1);
-            }
+            Kit.narrow(x, ids[0], ids[1]);
             C.due("a branch of two", x.branch(0), ids[0]);
             C.due("a branch of two", x.branch(1), ids[1]);
             x.step(1);
@@ -440,16 +438,6 @@ public final class SearchTest {
     // All frames are the searcher's own here, so that their number tells the COUNT.
     private static void aloneBranch(LampLine x, long id) {
         x.search();
-        narrow(x, id);
-    }
-
-    /** Steps until the latest branch is of this lamp's ID alone: its echo is spoiled each time. */
-    private static void narrow(LampLine x, long id) {
-        for (int k = 0; k < 200 && (x.branch(0) != id || x.branch(1) != id); k++) {
-            if (x.branch(0) <= id && id <= x.branch(1)) {
-                x.spoil(0, 255);
-            }
-            x.step(1);
-        }
+        Kit.narrow(x, id, id);
     }
 }

@@ -6,7 +6,8 @@ import java.util.function.Supplier;
 /** Long runs of calls, right and wrong, in any order: the class answers what the model answers. */
 public final class WildTest {
     private static final int RUNS = 1500;
-    private static final int CALLS = 500;
+    // The document promises nothing of an object behind its 512th call.
+    private static final int CALLS = 512;
     private static final int[] MAKERS = {1, 2, 300, 32766, 32767};
     private static final long[] RESTS = {0, 1, 2, 3, 0x7F00FF00L, 4294967293L, 4294967294L};
     private static final int[] MATTERS = {80, 96, 128, 130, 224, 240, 4096, 32, 130, 130, 32, 1, 2, 3, 0, 65535};
@@ -229,6 +230,9 @@ public final class WildTest {
     }
 
     private void both(String call, Supplier<Long> got, Supplier<Long> want) {
+        if (calls == CALLS) {
+            return;
+        }
         calls++;
         String due = told(want);
         String is = told(got);
