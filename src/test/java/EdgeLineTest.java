@@ -64,11 +64,13 @@ public final class EdgeLineTest {
         C.due(call + " is looked at", x.about(0, 10), 1);
     }
 
+    /** A frame that is nothing, also behind a right one, which must not be looked at again. */
     private static void nothing(String call, int... frame) {
         LampLine x = line();
+        Kit.send(x, GET);
         C.due(call + " is nothing", Kit.send(x, frame), 0);
-        C.due(call + " is not looked at", x.about(0, 10), 0);
-        C.due(call + " is a frame all the same", x.frames(), 1);
+        C.due(call + " is not looked at", x.about(0, 10), 1);
+        C.due(call + " is a frame all the same", x.frames(), 2);
     }
 
     private static void highestFirst() {

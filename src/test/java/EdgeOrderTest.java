@@ -29,6 +29,8 @@ public final class EdgeOrderTest {
 
     private static void matters() {
         C.sentence("how many GETS and SETS by ID it had, modulo 65536 (2; with this one)", EdgeOrderTest::ordersByID);
+        C.sentence("MAKER (2), the rest (4), FOOTPRINT (2), MODE (1), MODES (1), ADDRESS (2), 0 (2)",
+                EdgeOrderTest::greatestNumbers);
         C.sentence("LAMP and its rest as eight digits 0 .. 9, A .. F (12 signs).", EdgeOrderTest::digits);
         C.sentence("SET (0 .. 32 bytes of 32 .. 126): its LABEL (empty at first).", EdgeOrderTest::labelSizes);
         C.sentence("SET (0 .. 32 bytes of 32 .. 126): its LABEL (empty at first).", EdgeOrderTest::labelBytes);
@@ -109,13 +111,13 @@ public final class EdgeOrderTest {
     private static void messages() {
         LampLine x = line();
         for (int waiting = 0; waiting <= 4; waiting++) {
-            get(x, 240);
-            C.due("MESSAGES of a GET, " + waiting + " wait", x.answer(17), waiting);
+            Kit.ask(x, MAKER, REST, Kit.SEARCH, 3);
+            C.due("MESSAGES of a SEARCH, " + waiting + " wait", x.answer(17), waiting);
             C.due("about(0, 8)", x.about(0, 8), waiting);
+            get(x, 240);
+            C.due("MESSAGES of a GET", x.answer(17), waiting);
             get(x, 1);
             C.due("MESSAGES of a refusal", x.answer(17), waiting);
-            Kit.ask(x, MAKER, REST, Kit.SEARCH, 3);
-            C.due("MESSAGES of a SEARCH", x.answer(17), waiting);
             set(x, 130, 'a');
             C.due("MESSAGES of LATER", x.answer(17), waiting);
             pass(x, 3);
@@ -151,12 +153,13 @@ public final class EdgeOrderTest {
         int[] others = {0, 1, 15, 17, 31, 33, 47, 49, 64, 80, 128 + 16, 128 + 32, 128 + 48, 255};
         for (int other : others) {
             LampLine x = line();
+            get(x, 80);
             C.due("CLASS " + other + ", MATTER 2", Kit.ask(x, MAKER, REST, other, 2), LampLine.NONE);
             C.due("CLASS " + other + ", MATTER 80", Kit.ask(x, MAKER, REST, other, 80), LampLine.NONE);
             C.due("CLASS " + other + ", MATTER 224", Kit.ask(x, MAKER, REST, other, 224, 2), LampLine.NONE);
             C.due("it is not SILENT", x.about(0, 5), 0);
             C.due("its MODE stays", x.about(0, 2), 1);
-            C.due("it was not asked", x.about(0, 10), 0);
+            C.due("it was asked once, before", x.about(0, 10), 1);
         }
         LampLine x = line();
         int[] known = {Kit.SEARCH, Kit.GET, Kit.SET};
@@ -200,7 +203,8 @@ public final class EdgeOrderTest {
 
     private static void unknownMatters() {
         LampLine x = line();
-        int[] unknown = {0, 1, 2, 3, 31, 33, 79, 81, 95, 97, 127, 129, 131, 223, 225, 239, 241, 4095, 4097, 4128, 65535};
+        int[] unknown = {0, 1, 2, 3, 31, 33, 79, 81, 95, 97, 127, 129, 131, 223, 225, 239, 241, 4095, 4097, 4128,
+            65535};
         for (int matter : unknown) {
             refused("GET " + matter, x, get(x, matter), 0);
             refused("SET " + matter, x, set(x, matter), 0);
@@ -322,6 +326,17 @@ public final class EdgeOrderTest {
         x.ask(MAKER, REST, 0, Kit.GET, 96);
         C.due("256", new int[] {x.answer(38), x.answer(39)}, 1, 0);
         C.due("about(0, 10)", x.about(0, 10), 256);
+    }
+
+    private static void greatestNumbers() {
+        LampLine x = new LampLine();
+        x.lamp(32767, 4294967294L, 64, 8, 1);
+        Kit.ask(x, 32767, 4294967294L, Kit.SET, 224, 8);
+        Kit.ask(x, 32767, 4294967294L, Kit.GET, 96);
+        C.due("512 SLOTS", Kit.data(x), 127, 255, 255, 255, 255, 254, 2, 0, 8, 8, 0, 1, 0, 0, 0, 2);
+        x.lamp(1, 0, 1, 1, 512);
+        Kit.ask(x, 1, 0, Kit.GET, 96);
+        C.due("SLOT 512", Kit.data(x), 0, 1, 0, 0, 0, 0, 0, 1, 1, 1, 2, 0, 0, 0, 0, 1);
     }
 
     private static void digits() {
@@ -557,6 +572,7 @@ public final class EdgeOrderTest {
         LampLine x = line();
         for (int k = 1; k <= 4; k++) {
             C.due("number " + k, set(x, 130, 'a' + k), 1);
+            C.due("its DATA", Kit.data(x), 0, 3);
         }
         refused("a fifth one, two on their way", x, set(x, 130, 'z'), 7);
         C.due("two wait", x.about(0, 8), 2);
@@ -625,6 +641,9 @@ public final class EdgeOrderTest {
             get(x, it[0]);
             C.due("it is done", x.answer(24), data[0]);
             C.due("no more WAIT", x.about(0, 8), 4);
+            C.due("MODE", x.about(0, 2), it[0] == 224 ? 2 : 1);
+            C.due("ADDRESS", x.about(0, 4), it[0] == 240 ? 256 : 10);
+            C.due("SHOWS", x.about(0, 6), it[0] == 4096 ? 1 : 0);
         }
     }
 
